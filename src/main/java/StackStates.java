@@ -619,15 +619,8 @@ public final class StackStates {
             return row << 2 | r + 1;
         }
 
-        private static int registerIn(int row, int i) {
-            return (row >> 2 * i & 3) - 1;
-        }
-
         private static boolean holds(int row, int r) {
-            for (int i = 0; i < MOST_REGISTERS; i++) {
-                if (registerIn(row, i) == r) return true;
-            }
-            return false;
+            return (row & 3) == r + 1 || (row >> 2 & 3) == r + 1 || (row >> 4 & 3) == r + 1;
         }
 
         int lengthOf(int s) {
@@ -635,7 +628,7 @@ public final class StackStates {
         }
 
         int registerOf(int s, int i) {
-            return registerIn(packed[s], i);
+            return (packed[s] >> 2 * i & 3) - 1;
         }
 
         int passageCost(int s, int t) {
@@ -701,8 +694,8 @@ public final class StackStates {
             if (!worksInRegisters(kind, s)) return 0;
             int row = packed[s];
             switch (kind) {
-                case EXCHANGE: return numberOf[push(push(row >> 4, registerIn(row, 0)), registerIn(row, 1))];
-                case ROTATE: return numberOf[push(row & 15, registerIn(row, 2))];
+                case EXCHANGE: return numberOf[push(push(row >> 4, registerOf(s, 0)), registerOf(s, 1))];
+                case ROTATE: return numberOf[push(row & 15, registerOf(s, 2))];
                 case DUPLICATE:
                 case OVER: return numberOf[push(row, smallestFree(row))];
                 default: break;
@@ -870,7 +863,7 @@ public final class StackStates {
 
         private int leading(int i, int exit) {
             if (!program.leads(i)) return 0;
-            return weights[i] * machine.passageCost(exit, pinned[program.numbers[i]]);
+            return weights[i] * passages[exit * MOST_STATES + pinned[program.numbers[i]]];
         }
 
         // The loops here and in cheapestEntry are by far those that run most often, so they call nothing.
@@ -890,7 +883,7 @@ public final class StackStates {
         }
 
         private int fallingTo(int i, int exit, int t) {
-            return weights[i] * machine.passageCost(exit, t) + onward[(i + 1) * MOST_STATES + t];
+            return weights[i] * passages[exit * MOST_STATES + t] + onward[(i + 1) * MOST_STATES + t];
         }
 
         private int total() {
