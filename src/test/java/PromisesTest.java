@@ -42,6 +42,7 @@ public final class PromisesTest {
         wentCounts();
         counts();
         endsOfRuns();
+        largest();
         check.end();
     }
 
@@ -423,6 +424,12 @@ public final class PromisesTest {
         check.due("a circle without a free register", x.passage(10, 12), 15);
         check.due("a circle of three", x.passage(10, 13), 18);
         check.due("a chain of moves", x.passage(4, 7), 6);
+        x.costs(4, 5, 7);
+        check.due("only the move is dearer", x.passage(10, 12), 16);
+        x.costs(4, 6, 7);
+        check.due("only the load is dearer", x.passage(10, 12), 17);
+        x.costs(4, 6, 8);
+        check.due("only the store is dearer", x.passage(10, 12), 18);
         x.costs(9, 1, 2);
         check.due("by memory", x.passage(1, 2), 3);
         check.due("a circle by memory", x.passage(10, 13), 9);
@@ -550,6 +557,14 @@ public final class PromisesTest {
         StackStates free = Check.laid("n01n02n03xh");
         free.costs(0, 0, 0);
         for (int i = 0; i < 5; i++) check.due("free, meets(" + i + ", 0)", free.meets(i, 0), 0);
+        // One of three cells is stored, the first one before n02 (then j03 has state 4) or before n03 (then 3).
+        StackStates tie = Check.laid("n01n02n03j03");
+        int[] first = {0, 1, 2, 3};
+        for (int i = 0; i < 4; i++) check.due("the target first, " + i, tie.meets(i, 0), first[i]);
+        // The same with two targets, 2 and 4: state 1 for 2 goes before state 3 for 4.
+        StackStates two = Check.laid("g0n00g0j04b02");
+        int[] smaller = {0, 0, 1, 4, 4};
+        for (int i = 0; i < 5; i++) check.due("the smaller target first, " + i, two.meets(i, 0), smaller[i]);
     }
 
     private static void ifMeetings() {
@@ -863,5 +878,35 @@ public final class PromisesTest {
             check.due("step(1)", x.step(1), NO);
             check.due("now(0)", x.now(0), NO);
         }
+    }
+
+    private static void largest() {
+        check.about("the largest program");
+        StackStates x = Check.laid("n01".repeat(12) + "w".repeat(12));
+        x.registers(3);
+        check.due("count(5)", x.count(5), 24);
+        check.due("depth", x.code(12, 2), 12);
+        // Nine cells are stored and loaded again.
+        check.due("best()", x.best(), 9 * 2 + 9 * 2);
+        check.due("ifMeets(23, 0)", x.ifMeets(23, 0), 36);
+        check.due("ifMeets(12, 0)", x.ifMeets(12, 0), 48);
+        check.due("meets(24, 0)", x.meets(24, 0), BAD);
+        x.start();
+        check.due("step(12)", x.step(12), 12);
+        check.due("twelve cells", x.now(2), 12);
+        check.due("cell(11)", x.cell(11), 1);
+        check.due("cell(12)", x.cell(12), NONE);
+        check.due("step(500)", x.step(500), 12);
+        check.due("paid", x.now(3), 36);
+        check.due("outputs", x.now(5), 12);
+        check.due("went(23)", x.went(23), 1);
+        check.due("profile()", x.profile(), 24);
+        check.due("best()", x.best(), 72);
+        check.due("undo()", x.undo(), 1);
+        check.due("weight", x.code(23, 4), 1);
+        StackStates jump = Check.laid("j23" + "h".repeat(22) + "j00");
+        check.due("reached", jump.count(5), 2);
+        check.due("two targets", jump.count(6), 2);
+        check.due("best()", jump.best(), 0);
     }
 }
