@@ -724,14 +724,15 @@ public final class StackStates {
         private final Machine machine;
         private final int[] passages;
         private final int[] weights;
-        // By instruction and state; legal and exits are lists of states, in ascending order and without order.
+        // By instruction: the list of its legal states, ascending, and of the states that its versions leave.
         private final int[] legal = new int[TABLE];
         private final int[] legals = new int[MOST_INSTRUCTIONS];
         private final int[] exits = new int[TABLE];
         private final int[] exitCounts = new int[MOST_INSTRUCTIONS];
+        // By instruction and state: the state that the version leaves, and its weighted cost; then the smallest
+        // cost of the instruction and those behind it in its chain, of those before it, and of all.
         private final int[] after = new int[TABLE];
         private final int[] price = new int[TABLE];
-        // The smallest cost of the instruction and those behind it in its chain, and of those before it.
         private final int[] onward = new int[TABLE];
         private final int[] backward = new int[TABLE];
         private final int[] least = new int[TABLE];
