@@ -12,7 +12,12 @@ public final class ChoicesTest {
     private static final int UNKNOWN = -1;
     private static final int FAR = 1 << 29;
 
-    private final StackStates x;
+    // The answers up to an object's 512th call are promised, and it takes up to 101 calls to make one.
+    private static final int MOST_ASKED = 400;
+
+    private final long seed;
+    private StackStates latest;
+    private int asked = 0;
     private final int size;
     private final int states;
     private final List<Integer> targets = new ArrayList<>();
@@ -23,26 +28,48 @@ public final class ChoicesTest {
     private final int[][][] versions;
     private final int[][] passages;
     private final int[] lengths;
+    private final int[] signs;
+    private final int[] numbers;
+    private final int[] depths;
+    private final int[] weights;
 
-    private ChoicesTest(StackStates x) {
-        this.x = x;
-        size = x.count(0);
-        states = x.states();
+    private ChoicesTest(long seed, StackStates x) {
+        this.seed = seed;
+        latest = x;
+        size = x().count(0);
+        states = x().states();
+        signs = codes(0);
+        numbers = codes(1);
+        depths = codes(2);
+        weights = codes(4);
         given = new int[size];
         versions = new int[size][states][2];
         passages = new int[states][states];
         lengths = new int[states];
         for (int i = 0; i < size; i++) {
             given[i] = UNKNOWN;
-            if (x.code(i, 3) == 1) targets.add(i);
+            if (x().code(i, 3) == 1) targets.add(i);
             for (int s = 0; s < states; s++) {
-                for (int what = 0; what < 2; what++) versions[i][s][what] = x.version(i, s, what);
+                for (int what = 0; what < 2; what++) versions[i][s][what] = x().version(i, s, what);
             }
         }
         for (int s = 0; s < states; s++) {
-            lengths[s] = x.state(s, -1);
-            for (int t = 0; t < states; t++) passages[s][t] = x.passage(s, t);
+            lengths[s] = x().state(s, -1);
+            for (int t = 0; t < states; t++) passages[s][t] = x().passage(s, t);
         }
+    }
+
+    private StackStates x() {
+        if (asked++ < MOST_ASKED) return latest;
+        asked = 1;
+        latest = laidAtRandom(new Random(seed));
+        return latest;
+    }
+
+    private int[] codes(int what) {
+        int[] result = new int[size];
+        for (int i = 0; i < size; i++) result[i] = x().code(i, what);
+        return result;
     }
 
     public static void main(String[] args) {
@@ -52,7 +79,7 @@ public final class ChoicesTest {
             StackStates x = laidAtRandom(new Random(seed));
             if (x == null) continue;
             check.about("seed " + seed);
-            new ChoicesTest(x).compare(check, new Random(seed));
+            new ChoicesTest(seed, x).compare(check, new Random(seed));
         }
         check.end();
     }
@@ -71,26 +98,26 @@ public final class ChoicesTest {
     }
 
     private void compare(Check check, Random random) {
-        check.due("best()", x.best(), cheapest());
+        check.due("best()", x().best(), cheapest());
         int[] best = firstOfCheapest();
         for (int i = 0; i < size; i++) {
-            boolean reached = x.code(i, 2) >= 0;
-            check.due("meets(" + i + ", 0)", x.meets(i, 0), reached ? best[i] : StackStates.NONE);
-            int left = reached ? x.version(i, best[i], 0) : StackStates.NONE;
-            check.due("meets(" + i + ", 1)", x.meets(i, 1), left);
+            boolean reached = depths[i] >= 0;
+            check.due("meets(" + i + ", 0)", x().meets(i, 0), reached ? best[i] : StackStates.NONE);
+            int left = reached ? versions[i][best[i]][0] : StackStates.NONE;
+            check.due("meets(" + i + ", 1)", x().meets(i, 1), left);
         }
         for (int k = 0; k < 12; k++) {
             onlyAt = random.nextInt(size);
             onlyState = random.nextInt(states);
-            int cost = x.code(onlyAt, 2) < 0 ? FAR : cheapest();
+            int cost = depths[onlyAt] < 0 ? FAR : cheapest();
             int due = cost >= FAR ? StackStates.NONE : cost;
-            check.due("ifMeets(" + onlyAt + ", " + onlyState + ")", x.ifMeets(onlyAt, onlyState), due);
+            check.due("ifMeets(" + onlyAt + ", " + onlyState + ")", x().ifMeets(onlyAt, onlyState), due);
         }
     }
 
     private boolean may(int i, int s) {
         if (i == onlyAt && s != onlyState || i == 0 && s != 0) return false;
-        return versions[i][s][0] != StackStates.NONE && lengths[s] <= x.code(i, 2);
+        return versions[i][s][0] != StackStates.NONE && lengths[s] <= depths[i];
     }
 
     private int cheapest() {
@@ -131,7 +158,7 @@ public final class ChoicesTest {
         Integer before = known.get(i * 16 + left);
         if (before != null) return before;
         int smallest = FAR;
-        if (x.code(i, 2) < 0) smallest = from(i + 1, 0);
+        if (depths[i] < 0) smallest = from(i + 1, 0);
         else for (int s = 0; s < states; s++) smallest = Math.min(smallest, with(i, left, s));
         known.put(i * 16 + left, smallest);
         return smallest;
@@ -139,24 +166,22 @@ public final class ChoicesTest {
 
     private int with(int i, int left, int s) {
         if (!may(i, s) || given[i] != UNKNOWN && given[i] != s) return FAR;
-        int weight = x.code(i, 4);
-        char sign = (char) x.code(i, 0);
+        int weight = weights[i];
         int leaves = versions[i][s][0];
         int sum = weight * versions[i][s][1];
-        if (sign == 'j' || sign == 'b') sum += weight * passages[leaves][given[x.code(i, 1)]];
-        if (i > 0 && enters(i - 1)) sum += x.code(i - 1, 4) * passages[left][s];
+        if (signs[i] == 'j' || signs[i] == 'b') sum += weight * passages[leaves][given[numbers[i]]];
+        if (i > 0 && enters(i - 1)) sum += weights[i - 1] * passages[left][s];
         return Math.min(FAR, sum + from(i + 1, leaves));
     }
 
     private boolean enters(int i) {
-        char sign = (char) x.code(i, 0);
-        return x.code(i, 2) >= 0 && sign != 'j' && sign != 'h';
+        return depths[i] >= 0 && signs[i] != 'j' && signs[i] != 'h';
     }
 
     private void trace(int[] result) {
         int left = 0;
         for (int i = 0; i < size; i++) {
-            if (x.code(i, 2) < 0) {
+            if (depths[i] < 0) {
                 left = 0;
                 continue;
             }

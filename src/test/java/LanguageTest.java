@@ -74,7 +74,12 @@ public final class LanguageTest {
             }
         }
         check.isTrue("some twenty fields", fields <= 20);
-        for (Method m : c.getDeclaredMethods()) parameters(m);
+        for (Method m : c.getDeclaredMethods()) {
+            parameters(m);
+            String name = m.getName() + " ";
+            boolean own = !Modifier.isPrivate(m.getModifiers());
+            for (String open : FACE) check.isTrue(m + " has a name of its own", own || !open.startsWith(name));
+        }
         for (Constructor<?> m : c.getDeclaredConstructors()) parameters(m);
     }
 
